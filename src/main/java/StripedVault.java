@@ -399,7 +399,7 @@ public final class StripedVault {
     }
 
     private static boolean isOfWord(int c) {
-        return isLetter(c) || isDigit(c) || c == '_';
+        return c >= 'a' && c <= 'z' || c >= 'A' && c <= 'Z' || c >= '0' && c <= '9' || c == '_';
     }
 
     private static long reference(int place, int count) {
@@ -2718,8 +2718,8 @@ public final class StripedVault {
                 fits = isNumber(type);
             } else {
                 value = scan.takeWord("true") ? 1 : 0;
-                if (value == 0) {
-                    scan.needWord("false");
+                if (value == 0 && !scan.takeWord("false")) {
+                    scan.refuse(at);
                 }
                 fits = type == BOOL;
             }
@@ -2968,20 +2968,19 @@ public final class StripedVault {
             if (form == LIST_TEST) {
                 return isListed(s, type, vault.val[entry]) ? TRUE : FALSE;
             }
-            return holds(form, compareLiteral(type, vault.val[entry], query.stepOther[s])) ? TRUE : FALSE;
+            long literal = query.literal[query.stepOther[s]];
+            int order = compareValues(type, vault.pool, vault.val[entry], query.texts, literal);
+            return holds(form, order) ? TRUE : FALSE;
         }
 
         private int typeOf(int column) {
             return vault.schema.type[vault.schema.fieldOf[column]];
         }
 
-        private int compareLiteral(int type, long value, int literal) {
-            return compareValues(type, vault.pool, value, query.texts, query.literal[literal]);
-        }
-
         private boolean isListed(int s, int type, long value) {
             for (int k = 0; k < query.stepLiterals[s]; k++) {
-                if (compareLiteral(type, value, query.stepOther[s] + k) == 0) {
+                long literal = query.literal[query.stepOther[s] + k];
+                if (compareValues(type, vault.pool, value, query.texts, literal) == 0) {
                     return true;
                 }
             }
@@ -3100,8 +3099,9 @@ public final class StripedVault {
                 yes = canCompare(form, type, first, second);
                 no = canCompare(form ^ 1, type, first, second);
             } else {
-                yes = canBe(form, type, first, query.stepOther[s]);
-                no = canBe(form ^ 1, type, first, query.stepOther[s]);
+                long literal = query.literal[query.stepOther[s]];
+                yes = canBe(form, type, first, literal);
+                no = canBe(form ^ 1, type, first, literal);
             }
             return truths | (yes ? TRUE : 0) | (no ? FALSE : 0);
         }
@@ -3130,16 +3130,18 @@ public final class StripedVault {
             return canHold(operator, low, high);
         }
 
-        private boolean canBe(int operator, int type, int asked, int literal) {
+        private boolean canBe(int operator, int type, int asked, long literal) {
+            byte[] pool = vault.pool;
+            byte[] texts = query.texts;
             int told = vault.tellerDictionary[asked];
             if (told == NONE) {
-                int low = compareLiteral(type, vault.tellerLeast[asked], literal);
-                int high = compareLiteral(type, vault.tellerGreatest[asked], literal);
+                int low = compareValues(type, pool, vault.tellerLeast[asked], texts, literal);
+                int high = compareValues(type, pool, vault.tellerGreatest[asked], texts, literal);
                 return canHold(operator, low, high);
             }
             int from = told / 128;
             for (int k = from; k < from + told % 128; k++) {
-                if (holds(operator, compareLiteral(type, vault.dictionary[k], literal))) {
+                if (holds(operator, compareValues(type, pool, vault.dictionary[k], texts, literal))) {
                     return true;
                 }
             }
@@ -3148,7 +3150,7 @@ public final class StripedVault {
 
         private boolean canBeListed(int s, int type, int asked) {
             for (int k = 0; k < query.stepLiterals[s]; k++) {
-                if (canBe(IS, type, asked, query.stepOther[s] + k)) {
+                if (canBe(IS, type, asked, query.literal[query.stepOther[s] + k])) {
                     return true;
                 }
             }
