@@ -11,6 +11,7 @@ public final class StripedVault {
     public static final int NONE = -1;
 
     private static final int REFUSED = -2;
+    private static final long LOWEST_LONG = 1L << 63;
 
     private static final int MOST_BYTES = 40000;
     private static final int MOST_SOURCE = 4000;
@@ -37,8 +38,8 @@ public final class StripedVault {
     private static final int MOST_NESTED = 32;
     private static final int MOST_STEPS = 64;
     private static final int MOST_LITERALS = 64;
-    // Every page has at least eight bytes of a file and every chunk a page: this is never reached.
-    private static final int MOST_TELLERS = 10010;
+    // A page has 11 bytes at least, a chunk 4 of the footer and a page: a file has no room for more.
+    private static final int MOST_TELLERS = 6000;
 
     private static final int REQUIRED = 0;
     private static final int OPTIONAL = 1;
@@ -114,12 +115,9 @@ public final class StripedVault {
         0xedb88320, 0xf00f9344, 0xd6d6a3e8, 0xcb61b38c, 0x9b64c2b0, 0x86d3d2d4, 0xa00ae278, 0xbdbdf21c
     };
 
-    private byte[] tape;
-    private int tapeSize;
-    private byte[] input;
-    private int inputSize;
-    private byte[] file;
-    private int fileSize;
+    private Sink tape;
+    private Sink input;
+    private Sink file;
     private final Scan scan;
     private Schema schema;
     private Schema spareSchema;
@@ -134,9 +132,9 @@ public final class StripedVault {
     private final Assembler assembler;
 
     public StripedVault() {
-        tape = new byte[MOST_BYTES];
-        input = new byte[MOST_BYTES];
-        file = new byte[MOST_BYTES];
+        tape = new Sink(MOST_BYTES);
+        input = new Sink(MOST_BYTES);
+        file = new Sink(MOST_BYTES);
         scan = new Scan();
         schema = new Schema();
         spareSchema = new Schema();
@@ -152,7 +150,7 @@ public final class StripedVault {
     }
 
     public boolean feed(int a, int b, int c, int d, int e) {
-        if (tapeSize + 20 > MOST_BYTES) {
+        if (tape.count + 20 > MOST_BYTES) {
             return false;
         }
         layFour(a);
@@ -165,20 +163,19 @@ public final class StripedVault {
 
     private void layFour(int four) {
         for (int shift = 24; shift >= 0; shift -= 8) {
-            tape[tapeSize] = (byte) (four >>> shift);
-            tapeSize++;
+            tape.put(four >>> shift);
         }
     }
 
     public boolean end(int n) {
-        if (n < 0 || n > tapeSize) {
+        if (n < 0 || n > tape.count) {
             return false;
         }
-        byte[] before = input;
+        Sink before = input;
         input = tape;
-        inputSize = n;
+        input.count = n;
         tape = before;
-        tapeSize = 0;
+        tape.forget();
         return true;
     }
 
@@ -187,7 +184,7 @@ public final class StripedVault {
         if (count > MOST_SOURCE) {
             return MOST_SOURCE;
         }
-        scan.begin(input, count);
+        scan.begin(input.bytes, count);
         int place = spareSchema.readText(scan);
         if (place != NONE) {
             return place;
@@ -200,8 +197,8 @@ public final class StripedVault {
     }
 
     private int useInput() {
-        int count = inputSize;
-        inputSize = 0;
+        int count = input.count;
+        input.forget();
         return count;
     }
 
@@ -213,7 +210,7 @@ public final class StripedVault {
         if (count > MOST_SOURCE) {
             return MOST_SOURCE;
         }
-        scan.begin(input, count);
+        scan.begin(input.bytes, count);
         return records.readText(scan, schema);
     }
 
@@ -247,31 +244,30 @@ public final class StripedVault {
         if (!writer.finish()) {
             return NONE;
         }
-        fileSize = writer.file.count;
-        System.arraycopy(writer.file.bytes, 0, file, 0, fileSize);
-        return fileSize;
+        file = writer.giveFile(file);
+        return file.count;
     }
 
     public void take() {
-        fileSize = useInput();
-        byte[] before = file;
+        Sink before = file;
         file = input;
         input = before;
+        input.forget();
     }
 
     public int size() {
-        return fileSize;
+        return file.count;
     }
 
     public int byteOf(int k) {
-        return k < 0 || k >= fileSize ? NONE : file[k] & 255;
+        return k < 0 || k >= file.count ? NONE : file.bytes[k] & 255;
     }
 
     public boolean poke(int k, int v) {
-        if (k < 0 || k >= fileSize) {
+        if (k < 0 || k >= file.count) {
             return false;
         }
-        file[k] = (byte) v;
+        file.bytes[k] = (byte) v;
         return true;
     }
 
@@ -279,7 +275,7 @@ public final class StripedVault {
         vault.ready = false;
         query.ready = false;
         answer.ready = false;
-        int fault = opener.lookAtFrame(file, fileSize);
+        int fault = opener.lookAtFrame(file.bytes, file.count);
         if (fault == 0) {
             fault = opener.lookAtFooter();
         }
@@ -326,7 +322,7 @@ public final class StripedVault {
         if (count > MOST_QUERY) {
             return MOST_QUERY;
         }
-        scan.begin(input, count);
+        scan.begin(input.bytes, count);
         int place = spareQuery.readText(scan, vault.schema);
         if (place != NONE) {
             return place;
@@ -611,7 +607,7 @@ public final class StripedVault {
                 return;
             }
             boolean zeroInFront = byteAt(first) == '0' && (minus || digits > 1);
-            if (zeroInFront || !fits || !minus && number == Long.MIN_VALUE) {
+            if (zeroInFront || !fits || !minus && number == LOWEST_LONG) {
                 refuse(start);
                 return;
             }
@@ -629,7 +625,7 @@ public final class StripedVault {
             number = 0;
             while (pos < count && isDigit(bytes[pos])) {
                 int digit = bytes[pos] - '0';
-                fits = fits && number >= (Long.MIN_VALUE + digit) / 10;
+                fits = fits && number >= (LOWEST_LONG + digit) / 10;
                 if (fits) {
                     number = number * 10 - digit;
                 }
@@ -765,8 +761,8 @@ public final class StripedVault {
 
         int find(int group, byte[] bytes, int at, int count) {
             int stop = pastOf(group);
-            for (int f = firstIn(group); f < stop; f = past[f]) {
-                if (hasName(f, bytes, at, count)) {
+            for (int f = firstIn(group); f < stop; f++) {
+                if (parent[f] == group && hasName(f, bytes, at, count)) {
                     return f;
                 }
             }
@@ -793,8 +789,10 @@ public final class StripedVault {
             System.arraycopy(bytes, at, names, f * MOST_NAME, count);
             fields++;
             past[f] = fields;
-            for (int g = group; g != NONE; g = parent[g]) {
+            int g = group;
+            for (int guard = 0; guard <= MOST_DEPTH && g != NONE; guard++) {
                 past[g] = fields;
+                g = parent[g];
             }
             if (itsType != GROUP) {
                 fieldOf[columns] = f;
@@ -968,7 +966,7 @@ public final class StripedVault {
             int stop = schema.pastOf(group);
             boolean more = scan.good() && scan.next() != '}';
             for (int guard = 0; guard <= MOST_FIELDS && more; guard++) {
-                int named = readName(f, stop);
+                int named = readName(f, stop, group);
                 scan.needSign(':');
                 if (!scan.good()) {
                     return;
@@ -978,7 +976,7 @@ public final class StripedVault {
                 f = schema.past[named];
                 more = scan.good() && scan.takeSign(',');
             }
-            if (scan.good() && someRequired(f, stop)) {
+            if (scan.good() && someRequired(f, stop, group)) {
                 scan.next();
                 scan.refuse(scan.pos);
             }
@@ -988,26 +986,28 @@ public final class StripedVault {
             }
         }
 
-        private boolean someRequired(int from, int stop) {
-            for (int f = from; f < stop; f = schema.past[f]) {
-                if (schema.mode[f] == REQUIRED) {
+        private boolean someRequired(int from, int stop, int group) {
+            for (int f = from; f < stop; f++) {
+                if (schema.parent[f] == group && schema.mode[f] == REQUIRED) {
                     return true;
                 }
             }
             return false;
         }
 
-        private int readName(int from, int stop) {
+        /** The field that is named next; a required one can't be missed out. */
+        private int readName(int from, int stop, int group) {
             if (!scan.takeAnyWord()) {
                 scan.refuse(scan.pos);
                 return NONE;
             }
-            for (int f = from; f < stop; f = schema.past[f]) {
-                if (schema.hasName(f, scan.bytes, scan.wordAt, scan.wordSize)) {
-                    return f;
-                }
-                if (schema.mode[f] == REQUIRED) {
-                    break;
+            boolean missed = false;
+            for (int f = from; f < stop && !missed; f++) {
+                if (schema.parent[f] == group) {
+                    if (schema.hasName(f, scan.bytes, scan.wordAt, scan.wordSize)) {
+                        return f;
+                    }
+                    missed = schema.mode[f] == REQUIRED;
                 }
             }
             scan.refuse(scan.wordAt);
@@ -1071,18 +1071,20 @@ public final class StripedVault {
         }
     }
 
-    /** A row of bytes that grows up to its room. */
+    /** A row of bytes that grows up to its room, but only when it must: most are short. */
     private static final class Sink {
-        final byte[] bytes;
+        byte[] bytes;
         int count;
         /** Whether there were more bytes than it has room for. */
         boolean over;
+        private final int room;
         private final int[] widths = new int[4];
         private int held;
         private int heldBits;
 
-        Sink(int room) {
-            bytes = new byte[room];
+        Sink(int itsRoom) {
+            room = itsRoom;
+            bytes = new byte[Math.min(itsRoom, 512)];
         }
 
         void forget() {
@@ -1090,32 +1092,35 @@ public final class StripedVault {
             over = false;
         }
 
-        void put(int v) {
-            if (count >= bytes.length) {
+        private boolean hasRoom(int more) {
+            if (over || more > room - count) {
                 over = true;
-                return;
+                return false;
             }
-            bytes[count] = (byte) v;
-            count++;
+            if (more > bytes.length - count) {
+                bytes = Arrays.copyOf(bytes, Math.min(room, Math.max(2 * bytes.length, count + more)));
+            }
+            return true;
+        }
+
+        void put(int v) {
+            if (hasRoom(1)) {
+                bytes[count] = (byte) v;
+                count++;
+            }
         }
 
         void putAll(byte[] from, int at, int size) {
-            if (size > bytes.length - count) {
-                over = true;
-                return;
+            if (hasRoom(size)) {
+                System.arraycopy(from, at, bytes, count, size);
+                count += size;
             }
-            System.arraycopy(from, at, bytes, count, size);
-            count += size;
         }
 
         void putVarint(long number) {
             long rest = number;
-            for (int k = 0; k < 10; k++) {
+            for (int k = 0; k < 10 && hasRoom(1); k++) {
                 boolean last = rest >>> 7 == 0;
-                if (count >= bytes.length) {
-                    over = true;
-                    return;
-                }
                 bytes[count] = (byte) (rest & 127 | (last ? 0 : 128));
                 count++;
                 if (last) {
@@ -1168,8 +1173,7 @@ public final class StripedVault {
         void tellSizeFrom(int at) {
             int size = count - at;
             int lead = size < 128 ? 1 : size < 16384 ? 2 : 3;
-            if (over || lead > bytes.length - count) {
-                over = true;
+            if (!hasRoom(lead)) {
                 return;
             }
             System.arraycopy(bytes, at, bytes, at + lead, size);
@@ -1186,8 +1190,7 @@ public final class StripedVault {
                 heldBits += part;
                 done += part;
                 if (heldBits == 8) {
-                    over = over || count >= bytes.length;
-                    if (!over) {
+                    if (hasRoom(1)) {
                         bytes[count] = (byte) held;
                         count++;
                     }
@@ -1268,7 +1271,7 @@ public final class StripedVault {
 
     /** Makes a FILE of records. */
     private static final class Writer {
-        final Sink file = new Sink(MOST_BYTES);
+        private Sink file = new Sink(MOST_BYTES);
         private final Sink footer = new Sink(MOST_BYTES);
         private final Sink body = new Sink(MOST_BYTES);
         private Sink best = new Sink(MOST_VALUES_BYTES);
@@ -1319,6 +1322,13 @@ public final class StripedVault {
             file.putFixed(checkOf(footer.bytes, 0, footer.count), 4);
             file.putAll(MAGIC, 0, 4);
             return !file.over && !footer.over;
+        }
+
+        /** Hands out the FILE that was made, for another row of bytes to make the next one in. */
+        Sink giveFile(Sink other) {
+            Sink made = file;
+            file = other;
+            return made;
         }
 
         /** The pages of a column of a group of rows; false if there can't be such a FILE. */
@@ -1457,7 +1467,17 @@ public final class StripedVault {
             int chosen = 0;
             for (int coding = 0; coding <= last; coding++) {
                 trial.forget();
-                encode(type, coding, last);
+                if (coding == 0) {
+                    putPlain(type, vals, values);
+                } else if (type == BOOL) {
+                    putBoolRuns();
+                } else if (coding == last) {
+                    putDictionary(type);
+                } else if (type == TEXT) {
+                    putTexts(coding == 2);
+                } else {
+                    trial.putCode(vals, values);
+                }
                 if (coding == 0 || trial.count < best.count) {
                     Sink before = best;
                     best = trial;
@@ -1468,21 +1488,11 @@ public final class StripedVault {
             return chosen;
         }
 
-        private void encode(int type, int coding, int last) {
-            if (coding == 0) {
-                putPlain(type, vals, values);
-            } else if (type == BOOL) {
-                for (int k = 0; k < values; k++) {
-                    numbers[k] = (int) vals[k];
-                }
-                trial.putRuns(numbers, values, 1);
-            } else if (coding == last) {
-                putDictionary(type);
-            } else if (type != TEXT) {
-                trial.putCode(vals, values);
-            } else {
-                encodeTexts(coding == 2);
+        private void putBoolRuns() {
+            for (int k = 0; k < values; k++) {
+                numbers[k] = (int) vals[k];
             }
+            trial.putRuns(numbers, values, 1);
         }
 
         private void putPlain(int type, long[] row, int size) {
@@ -1506,7 +1516,7 @@ public final class StripedVault {
         }
 
         /** Lengths and bytes; or what is in common with the one before, how many more, and these. */
-        private void encodeTexts(boolean inParts) {
+        private void putTexts(boolean inParts) {
             byte[] texts = records.texts;
             for (int k = 0; k < values && inParts; k++) {
                 sizes[k] = k == 0 ? 0 : inCommon(texts, vals[k - 1], vals[k]);
@@ -1754,11 +1764,11 @@ public final class StripedVault {
             for (int from = 1; fault == 0 && from < size; from += 64) {
                 readBlock(into, from, (int) Math.min(from + 64, size));
             }
-            check(size == due, MANY);
             if (told) {
                 checkEnd();
                 stop = before;
             }
+            check(size == due, MANY);
         }
 
         private void readBlock(long[] into, int from, int to) {
@@ -2271,10 +2281,12 @@ public final class StripedVault {
         /** D of the field, itself or around it, that is the first one with a certain R. */
         private int defOfRepeated(int field, int level) {
             Schema schema = vault.schema;
-            for (int f = field; f != NONE; f = schema.parent[f]) {
+            int f = field;
+            for (int guard = 0; guard <= MOST_DEPTH && f != NONE; guard++) {
                 if (schema.mode[f] == REPEATED && schema.rep[f] == level) {
                     return schema.def[f];
                 }
+                f = schema.parent[f];
             }
             return 0;
         }
@@ -2336,7 +2348,7 @@ public final class StripedVault {
         private boolean goTogether(int column, int before, int chunk) {
             Schema schema = vault.schema;
             int around = schema.parent[schema.fieldOf[column]];
-            while (around != NONE && around > schema.fieldOf[column - 1]) {
+            for (int guard = 0; guard <= MOST_DEPTH && around > schema.fieldOf[column - 1]; guard++) {
                 around = schema.parent[around];
             }
             if (around == NONE) {
@@ -2348,7 +2360,7 @@ public final class StripedVault {
             int stopB = vault.tellerFirst[chunk] + vault.tellerEntries[chunk];
             int a = nextUpTo(level, vault.tellerFirst[before], stopA);
             int b = nextUpTo(level, vault.tellerFirst[chunk], stopB);
-            while (a < stopA && b < stopB) {
+            for (int guard = 0; guard < MOST_ENTRIES && a < stopA && b < stopB; guard++) {
                 if (vault.rep[a] != vault.rep[b]
                         || Math.min(vault.def[a], most) != Math.min(vault.def[b], most)) {
                     return false;
@@ -2795,14 +2807,13 @@ public final class StripedVault {
         }
 
         private void markWanted() {
-            Arrays.fill(wanted, false);
             Schema schema = vault.schema;
+            for (int f = 0; f < MOST_FIELDS; f++) {
+                wanted[f] = false;
+            }
             for (int k = 0; k < items && !collects; k++) {
                 int field = query.itemField[k];
                 for (int f = field; f < schema.past[field]; f++) {
-                    wanted[f] = true;
-                }
-                for (int f = schema.parent[field]; f != NONE; f = schema.parent[f]) {
                     wanted[f] = true;
                 }
             }
@@ -3021,7 +3032,9 @@ public final class StripedVault {
         }
 
         private void markAsked() {
-            Arrays.fill(asked, false);
+            for (int c = 0; c < MOST_COLUMNS; c++) {
+                asked[c] = false;
+            }
             for (int s = 0; s < query.steps; s++) {
                 int form = query.stepForm[s];
                 if (form < NOT) {
@@ -3196,9 +3209,10 @@ public final class StripedVault {
             for (int c = schema.columns - 1; c >= 0; c--) {
                 cursor[c] = vault.entryOf(row, c);
                 int field = schema.fieldOf[c];
-                boolean written = wanted == null || wanted[field];
-                for (int f = field; f != NONE && written; f = schema.parent[f]) {
+                int f = wanted == null || wanted[field] ? field : NONE;
+                for (int guard = 0; guard <= MOST_DEPTH && f != NONE; guard++) {
                     guide[f] = c;
+                    f = schema.parent[f];
                 }
             }
             writeGroup(NONE, 0);
@@ -3217,8 +3231,8 @@ public final class StripedVault {
             int stop = schema.pastOf(group);
             boolean some = false;
             out.put('{');
-            for (int f = schema.firstIn(group); f < stop; f = schema.past[f]) {
-                if (guide[f] == NONE) {
+            for (int f = schema.firstIn(group); f < stop; f++) {
+                if (schema.parent[f] != group || guide[f] == NONE) {
                     continue;
                 }
                 if (vault.def[cursor[guide[f]]] < schema.def[f]) {
