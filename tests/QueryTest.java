@@ -9,6 +9,7 @@ public final class QueryTest {
         literals();
         tests();
         bys();
+        ownWords();
         limits();
         stays();
         VaultKit.finish();
@@ -165,6 +166,26 @@ public final class QueryTest {
         place("select r,g.y,r", -1);
         place("select g.count,a", 9);
         place("select abcdefghijklmnopq", 7);
+    }
+
+    /** All of them are names of a schema, but none of a query. */
+    private static void ownWords() {
+        String[] words = {"select", "where", "group", "by", "and", "or", "not", "is", "null", "in", "true", "false",
+            "count", "sum", "min", "max"};
+        StringBuilder schema = new StringBuilder("optional group g{required int x;");
+        for (String word : words) {
+            schema.append("optional int ").append(word).append(";");
+        }
+        StripedVault v = VaultKit.opened(VaultKit.vault(schema + "}optional int a;", "{}"), 1, 1);
+        for (String word : words) {
+            VaultKit.due("g." + word, VaultKit.query(v, "select g." + word), 9);
+            VaultKit.due("a = g." + word, VaultKit.query(v, "select a where a = g." + word), 21);
+        }
+        VaultKit.due("g.x", VaultKit.query(v, "select g.x where g.x = a group by g.x"), -1);
+        VaultKit.due("a.x", VaultKit.query(v, "select a.x"), 7);
+        VaultKit.due("x", VaultKit.query(v, "select x"), 7);
+        VaultKit.due("zz.a", VaultKit.query(v, "select zz.a"), 7);
+        VaultKit.due("g.a", VaultKit.query(v, "select g.a"), 7);
     }
 
     private static String many(String one, String between, int count) {

@@ -100,6 +100,8 @@ public final class RecordTest {
         place("{a:1,t:'ab\\", 11);
         place("{a:1,t:'ab\\x", 12);
         place("{a:1,t:'ab\\x4", 13);
+        place("{a:1,t:'ab\\x0", 13);
+        place("{a:1,t:'ab\\x0'", 10);
         String most = "q".repeat(255);
         place("{a:1,t:'" + most + "',z:true}", -1);
         place("{a:1,t:'" + most + "q',z:true}", 8 + 255);

@@ -8,6 +8,7 @@ public final class WriteTest {
         codingsOfTexts();
         levels();
         codeInBlocks();
+        sizesInFront();
         pagesAndGroups();
         refused();
         whatIsOpenStays();
@@ -130,6 +131,8 @@ public final class WriteTest {
         String[] none = {"", "", "", "", "", "", "", ""};
         byte[] empty = VaultKit.page(VaultKit.cat(8, 8, 0), 2, 16, 0);
         bytes("no values", records("optional int a;", none), 9, 9, one(4, 8, empty, 8, 8));
+        bytes("no bools", records("optional bool a;", none), 9, 9, one(1, 8, empty, 8, 8));
+        bytes("no texts", records("optional text a;", none), 9, 9, one(10, 8, empty, 8, 8));
         // 8 levels that differ, then 9 the same: GROUPS until one begins with eight that are the same.
         String[] levels = new String[17];
         java.util.Arrays.fill(levels, "true");
@@ -151,6 +154,32 @@ public final class WriteTest {
         byte[] code = VaultKit.cat(66, 0, 2, 0, 0, 0, 0, 72, 0, 0, 0, 0);
         byte[] page = VaultKit.page(VaultKit.cat(66, 0, 1, 0, 200, 1), levels, defs, code);
         bytes("blocks", v, 100, 1, one(5, 1, page, 66, 0, 0, 200, 1));
+    }
+
+    /** Levels of 127, 128 and 129 bytes: their size has one byte in front of them, or two. */
+    private static void sizesInFront() {
+        for (int groups = 61; groups <= 63; groups++) {
+            // GROUPS of levels that change, then eight that are the same, then GROUPS again.
+            StringBuilder text = new StringBuilder("{g:[");
+            for (int k = 0; k < groups * 8 + 8; k++) {
+                boolean value = k >= 240 && k < 248 || k % 2 == 0;
+                text.append(k == 0 ? "" : ",").append(value ? "{a:1}" : "{}");
+            }
+            String record = text + "]}";
+            StripedVault v = VaultKit.opened(VaultKit.vault("repeated group g{optional int a;}", record), 1000, 1);
+            VaultKit.due("levels that change, " + groups, VaultKit.show(v, 0), record);
+        }
+        for (int texts = 100; texts < 140; texts++) {
+            StripedVault v = VaultKit.vault("repeated text t;");
+            StringBuilder text = new StringBuilder("{t:[");
+            for (int k = 0; k < texts; k++) {
+                text.append(k == 0 ? "'" : ",'").append((char) ('a' + k * 7 % 26)).append("z".repeat(k * k % 37)).append("'");
+            }
+            String record = text + "]}";
+            VaultKit.due("record", VaultKit.record(v, record), -1);
+            VaultKit.opened(v, 1000, 1);
+            VaultKit.due("lengths that change, " + texts, VaultKit.show(v, 0), record);
+        }
     }
 
     private static void pagesAndGroups() {
