@@ -23,6 +23,7 @@ public final class SchemaTest {
         place("required int a;optional group g{required int a;}", -1);
         place("required int " + NAME16 + ";", -1);
         place("required int a_9;required int A_9;", -1);
+        place("required int z;required int Z;required int zZ_09;", -1);
     }
 
     private static void faults() {

@@ -120,6 +120,7 @@ public final class SkipTest {
         skips(v, "a = 1000000007", 0, 0);
         skips(v, "a in (1500000000, 5)", 0, 1);
         skips(v, "not a in (1000000007, 2000000011)", 0, 1);
+        skips(v, "not a in (1000000007, 5)", 0, 0);
         skips(v, "a <> 1000000007 and a <> 2000000011", 0, 0);
         skips(v, "a < 1000000008", 0, 0);
 

@@ -4,7 +4,8 @@ public final class TapeTest {
         newObject();
         bytesOfTape();
         endOfTape();
-        tapeStaysBeyondCalls();
+        longTape();
+        fullTape();
         fileAsBytes();
         inputIsUsedUp();
         VaultKit.finish();
@@ -72,7 +73,7 @@ public final class TapeTest {
     }
 
     /** 500 calls give 10000 bytes: all of them are kept, in their order. */
-    private static void tapeStaysBeyondCalls() {
+    private static void longTape() {
         StripedVault v = new StripedVault();
         for (int k = 0; k < 500; k++) {
             VaultKit.due("feed", v.feed(k, k, k, k, k), true);
@@ -82,6 +83,19 @@ public final class TapeTest {
         VaultKit.due("size", v.size(), 10000);
         VaultKit.due("last", v.byteOf(9999), 499 & 255);
         VaultKit.due("last but one", v.byteOf(9998), 499 >> 8);
+    }
+
+    /** What calls beyond the 512th answer is free; here the tape is full at 40000 bytes all the same. */
+    private static void fullTape() {
+        StripedVault v = new StripedVault();
+        for (int k = 0; k < 2000; k++) {
+            VaultKit.due("feed", v.feed(0, 0, 0, 0, k), true);
+        }
+        VaultKit.due("no room", v.feed(1, 2, 3, 4, 5), false);
+        VaultKit.due("end", v.end(40000), true);
+        v.take();
+        VaultKit.due("size", v.size(), 40000);
+        VaultKit.due("last", v.byteOf(39999), 1999 & 255);
     }
 
     private static void fileAsBytes() {

@@ -11,6 +11,7 @@ public final class WriteTest {
         sizesInFront();
         pagesAndGroups();
         refused();
+        longestFile();
         whatIsOpenStays();
         VaultKit.finish();
     }
@@ -242,11 +243,53 @@ public final class WriteTest {
         VaultKit.due("no file yet", big.size(), 0);
 
         StripedVault many = VaultKit.vault("optional bool b;");
-        for (int k = 0; k < 501; k++) {
+        for (int k = 0; k < 500; k++) {
             VaultKit.record(many, "{}");
         }
+        VaultKit.due("500 groups", many.write(1, 1) > 0, true);
+        VaultKit.due("open", many.open(), 0);
+        VaultKit.due("500 groups", many.opened(1), 500);
+        VaultKit.record(many, "{}");
         VaultKit.due("501 groups", many.write(1, 1), -1);
         VaultKit.due("251 groups", many.write(1, 2) > 0, true);
+    }
+
+    private static String noise(java.util.Random random, int size) {
+        StringBuilder text = new StringBuilder();
+        for (int k = 0; k < size; k++) {
+            text.append((char) ('a' + random.nextInt(26)));
+        }
+        return text.toString();
+    }
+
+    /** Texts that no coding makes shorter, and one more of so many bytes. */
+    private static StripedVault noisy(int last) {
+        StripedVault v = VaultKit.vault("repeated text t;");
+        java.util.Random random = new java.util.Random(1);
+        for (int k = 0; k < 10; k++) {
+            StringBuilder text = new StringBuilder("{t:['").append(noise(random, 255)).append("'");
+            for (int n = 1; n < 15; n++) {
+                text.append(",'").append(noise(random, 255)).append("'");
+            }
+            VaultKit.due("record", VaultKit.record(v, text + "]}"), -1);
+        }
+        VaultKit.due("record", VaultKit.record(v, "{t:['" + "m".repeat(last) + "']}"), -1);
+        return v;
+    }
+
+    /** A file may have 40000 bytes, not one more; those of the footer and the frame count. */
+    private static void longestFile() {
+        int size = noisy(1).write(1000, 2000);
+        int longest = 40000 - size + 1;
+        VaultKit.due("a text of less than 128 bytes is left", longest > 1 && longest < 128, true);
+        StripedVault v = noisy(longest);
+        VaultKit.due("40000 bytes", v.write(1000, 2000), 40000);
+        VaultKit.due("size", v.size(), 40000);
+        VaultKit.due("open", v.open(), 0);
+        VaultKit.due("last byte", v.byteOf(39999), 66);
+        v = noisy(longest + 1);
+        VaultKit.due("40001 bytes", v.write(1000, 2000), -1);
+        VaultKit.due("no file", v.size(), 0);
     }
 
     private static void whatIsOpenStays() {
