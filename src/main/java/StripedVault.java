@@ -2006,7 +2006,6 @@ public final class StripedVault {
             dictionaryEnd = 0;
             poolEnd = MOST_BYTES;
             allTexts = 0;
-            int end = source.stop;
             footer.pos = chunksAt;
             for (int g = 0; g < vault.groups; g++) {
                 vault.groupRow[g + 1] = vault.groupRow[g] + (int) footer.readVarint();
@@ -2029,7 +2028,7 @@ public final class StripedVault {
                     }
                 }
             }
-            source.stop = end;
+            // Behind the last entry there is no further value of any field.
             vault.rep[vault.entries] = 0;
             lookAt(NONE, NONE, NONE);
             return 0;
