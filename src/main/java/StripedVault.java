@@ -1764,10 +1764,9 @@ public final class StripedVault {
             for (int from = 1; fault == 0 && from < size; from += 64) {
                 readBlock(into, from, (int) Math.min(from + 64, size));
             }
-            if (told) {
-                checkEnd();
-                stop = before;
-            }
+            // A CODE without its size in front ends with the page: bytes behind it are found before what it tells, too.
+            checkEnd();
+            stop = before;
             check(size == due, MANY);
         }
 
@@ -2193,6 +2192,9 @@ public final class StripedVault {
 
         private void readTexts() {
             source.readCode(vals, values, true);
+            for (int k = 0; k < values; k++) {
+                source.check(within(vals[k], MOST_TEXT), RANGE);
+            }
             for (int k = 0; k < values && source.fault == 0; k++) {
                 vals[k] = source.readLetters(vals[k]);
                 pageTexts += sizeOf(vals[k]);
@@ -2234,6 +2236,7 @@ public final class StripedVault {
             int width = source.readByte();
             source.check(width <= 32, BITS);
             source.readRuns(numbers, values, width);
+            source.checkEnd();
             for (int k = 0; k < values && source.fault == 0; k++) {
                 source.check(numbers[k] < size, RANGE);
                 if (source.fault == 0) {
