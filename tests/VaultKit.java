@@ -1,5 +1,6 @@
 import java.io.ByteArrayOutputStream;
 import java.nio.charset.StandardCharsets;
+import java.util.Arrays;
 import java.util.zip.CRC32;
 
 /** What the tests share: feeding texts, counting wrong answers, and files made byte by byte. */
@@ -168,6 +169,64 @@ final class VaultKit {
         CRC32 crc = new CRC32();
         crc.update(bytes);
         return low4(crc.getValue());
+    }
+
+    static long zigzag(long v) {
+        return v << 1 ^ v >> 63;
+    }
+
+    /** Numbers of so many bits each, one behind the other, the lowest bit of the first byte first. */
+    static byte[] bits(int width, long... numbers) {
+        byte[] bytes = new byte[(width * numbers.length + 7) / 8];
+        for (int k = 0; k < numbers.length * width; k++) {
+            bytes[k / 8] |= (byte) ((numbers[k / width] >>> k % width & 1) << k % 8);
+        }
+        return bytes;
+    }
+
+    /** RUNS: so many times one number. */
+    static byte[] same(int width, long number, int times) {
+        byte[] bytes = new byte[(width + 7) / 8];
+        for (int k = 0; k < bytes.length; k++) {
+            bytes[k] = (byte) (number >>> 8 * k);
+        }
+        return cat(varint(2L * times), bytes);
+    }
+
+    /** RUNS: numbers in groups of eight. */
+    static byte[] groups(int width, long... numbers) {
+        int count = (numbers.length + 7) / 8;
+        return cat(varint(2L * count + 1), bits(width, Arrays.copyOf(numbers, 8 * count)));
+    }
+
+    /** The CODE of numbers, with as little as can be. */
+    static byte[] code(long... numbers) {
+        byte[] all = varint(numbers.length);
+        if (numbers.length > 0) {
+            all = cat(all, varint(zigzag(numbers[0])));
+        }
+        for (int from = 1; from < numbers.length; from += 64) {
+            int to = Math.min(from + 64, numbers.length);
+            long least = Long.MAX_VALUE;
+            for (int k = from; k < to; k++) {
+                least = Math.min(least, numbers[k] - numbers[k - 1]);
+            }
+            byte[] widths = new byte[4];
+            byte[] parts = new byte[0];
+            for (int first = from; first < to; first += 16) {
+                long[] rest = new long[16];
+                long most = 0;
+                for (int k = first; k < first + 16 && k < to; k++) {
+                    rest[k - first] = numbers[k] - numbers[k - 1] - least;
+                    most |= rest[k - first];
+                }
+                int width = 64 - Long.numberOfLeadingZeros(most);
+                widths[(first - from) / 16] = (byte) width;
+                parts = cat(parts, bits(width, rest));
+            }
+            all = cat(all, varint(zigzag(least)), widths, parts);
+        }
+        return all;
     }
 
     /** A page: what comes before the size of the body, and the body. */
