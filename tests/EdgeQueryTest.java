@@ -29,6 +29,7 @@ public final class EdgeQueryTest {
         itemsBehindBy();
         metFirst();
         refusedChangesNothing();
+        oneBehindTheOther();
         VaultKit.finish();
     }
 
@@ -279,6 +280,10 @@ public final class EdgeQueryTest {
         for (String text : wrong) {
             place(start + "ok" + text + "  '", start.length() + 2);
         }
+        String[] last = {"\\q", "\\xg", "\\x4g", "\\x4'"};
+        for (String text : last) {
+            place(start + "ok" + text, start.length() + 2);
+        }
         String[] early = {"\\", "\\x", "\\x4", "\\x41", "\\'"};
         for (String text : early) {
             place(start + "ok" + text, start.length() + 2 + text.length());
@@ -487,6 +492,15 @@ public final class EdgeQueryTest {
         place("select ? group by aa,aa", 7);
         place("select count group by aa,aa,?", 25);
         place("select count group by aa,?,aa", 25);
+    }
+
+    /** Each query has room for its own texts and literals. */
+    private static void oneBehindTheOther() {
+        StripedVault v = VaultKit.opened(VaultKit.vault("required text t;", "{t:'b'}"), 9, 9);
+        for (int k = 0; k < 30; k++) {
+            VaultKit.due("query " + k, VaultKit.query(v, "select t where t<'" + "c".repeat(255) + "'"), -1);
+        }
+        VaultKit.due("run", v.run(), 1);
     }
 
     /** "the query before stays". */

@@ -7,6 +7,7 @@ public final class EdgeTapeTest {
         roomOfTheTape();
         howManyAreCutOff();
         refusedEndChangesNothing();
+        cutOffTwice();
         usedUpInAnyCase();
         nothingElseUsesItUp();
         takeOfNothing();
@@ -80,6 +81,19 @@ public final class EdgeTapeTest {
         VaultKit.due("none of none", v.end(0), true);
         v.take();
         VaultKit.due("the INPUT is none then", v.size(), 0);
+    }
+
+    /** The tape is empty behind end, whatever was INPUT before. */
+    private static void cutOffTwice() {
+        StripedVault v = new StripedVault();
+        for (int k = 1; k < 5; k++) {
+            VaultKit.due("feed", v.feed(k << 24, 0, 0, 0, 0), true);
+            VaultKit.due("all of it", v.end(20), true);
+            VaultKit.due("the tape is empty", v.end(1), false);
+        }
+        v.take();
+        VaultKit.due("the latest one", v.byteOf(0), 4);
+        VaultKit.due("size", v.size(), 20);
     }
 
     private static void usedUp(String what, StripedVault v) {
@@ -159,7 +173,14 @@ public final class EdgeTapeTest {
         VaultKit.due("the tape", v.end(20), true);
     }
 
+    /** The FILE before is gone: it doesn't come back as the INPUT. */
     private static void takeOfNothing() {
+        StripedVault w = VaultKit.taken(VaultKit.bytes("xyz"));
+        VaultKit.input(w, "ab");
+        w.take();
+        VaultKit.due("the INPUT", w.size(), 2);
+        w.take();
+        VaultKit.due("no INPUT", w.size(), 0);
         StripedVault v = VaultKit.vault("optional int a;");
         VaultKit.due("write", v.write(1, 1) > 0, true);
         v.take();

@@ -30,6 +30,7 @@ public final class EdgeTextTest {
         tooManyBytesOfTexts();
         refusedRecordChangesNothing();
         clearing();
+        fewerBehindMore();
         VaultKit.finish();
     }
 
@@ -383,6 +384,10 @@ public final class EdgeTextTest {
         for (String text : early) {
             record(s, "{a:'ok" + text, 6 + text.length());
         }
+        String[] last = {"\\q", "\\xg", "\\x4g", "\\ ", "\\x4'", "\\x'"};
+        for (String text : last) {
+            record(s, "{a:'ok" + text, 6);
+        }
         record(s, "{a:'\\x00\\x09\\xaf\\xfa\\x99\\xff'}", -1);
     }
 
@@ -514,6 +519,28 @@ public final class EdgeTextTest {
         VaultKit.due("rows", v.opened(0), 2);
         VaultKit.due("row", VaultKit.show(v, 0), "{a:1,t:'first'}");
         VaultKit.due("row", VaultKit.show(v, 1), "{a:2,t:'second',g:[{x:1},{}]}");
+    }
+
+    /** Nothing is left of records and fields that were there before. */
+    private static void fewerBehindMore() {
+        StripedVault v = VaultKit.vault("repeated int a;repeated text t;", "{a:[1,2,3,4],t:['x','y','z']}", "{a:[5,6,7]}");
+        v.clear();
+        VaultKit.due("record", VaultKit.record(v, "{a:[8],t:['q']}"), -1);
+        VaultKit.opened(v, 9, 9);
+        VaultKit.due("row", VaultKit.show(v, 0), "{a:[8],t:['q']}");
+        VaultKit.due("record", VaultKit.record(v, "{a:[9,10]}"), -1);
+        VaultKit.opened(v, 9, 9);
+        VaultKit.due("row", VaultKit.show(v, 1), "{a:[9,10]}");
+        VaultKit.due("rows", v.opened(0), 2);
+        for (int k = 0; k < 3; k++) {
+            VaultKit.due("two fields", VaultKit.schema(v, "required int a;optional int b;"), -1);
+            VaultKit.due("record", VaultKit.record(v, "{a:1,b:2}"), -1);
+            VaultKit.due("one field", VaultKit.schema(v, "required int a;"), -1);
+            VaultKit.due("no second one", VaultKit.record(v, "{a:1,b:2}"), 5);
+            VaultKit.due("a group", VaultKit.schema(v, "required group g{required int a;}"), -1);
+            VaultKit.due("no second one", VaultKit.record(v, "{g:{a:1,b:2}}"), 8);
+            VaultKit.due("no second one", VaultKit.record(v, "{g:{a:1},b:2}"), 9);
+        }
     }
 
     private static void clearing() {

@@ -17,6 +17,11 @@ public final class EdgeWriteTest {
         howManyGroups();
         bytesOfTheFile();
         differencesWrapAround();
+        differencesOfAllBits();
+        leastOfAnotherBlock();
+        sizesInFront();
+        boolsByRuns();
+        allInCommon();
         blocksAndParts();
         runsOfOne();
         runsOfNone();
@@ -142,10 +147,11 @@ public final class EdgeWriteTest {
             VaultKit.due("2500 bytes", VaultKit.record(v, list(9, 250, 250 + more)), -1);
             pages(v, 1000, 2000, 1, 1 + more);
             VaultKit.due("none", VaultKit.record(v, "{a:['']}"), -1);
+            VaultKit.due("none", VaultKit.record(v, "{}"), -1);
             pages(v, 1000, 2000, 1, 1 + more);
             VaultKit.due("one byte", VaultKit.record(v, "{a:['q']}"), -1);
             pages(v, 1000, 2000, 1, 2);
-            pages(v, 83, 2000, 1, 2);
+            pages(v, 84, 2000, 1, 2);
         }
     }
 
@@ -281,6 +287,98 @@ public final class EdgeWriteTest {
             byte[] defs = VaultKit.sized(count < 8 ? VaultKit.groups(1, all(count)) : VaultKit.same(1, 1, count));
             byte[] page = VaultKit.page(VaultKit.cat(count, 0, 1, bounds), reps, defs, VaultKit.code(values));
             VaultKit.due(count + " numbers", VaultKit.hex(VaultKit.file(v)), VaultKit.hex(one(8, 1, page, count, 0, bounds)));
+        }
+    }
+
+    /** A row of longs in one record, by the CODE. */
+    private static void coded(String what, long... values) {
+        int count = values.length;
+        StringBuilder text = new StringBuilder();
+        for (long value : values) {
+            text.append(text.length() == 0 ? "{a:[" : ",").append(value);
+        }
+        long least = Arrays.stream(values).min().getAsLong();
+        long greatest = Arrays.stream(values).max().getAsLong();
+        byte[] bounds = VaultKit.cat(told(least), told(greatest));
+        byte[] page = VaultKit.page(VaultKit.cat(VaultKit.varint(count), 0, 1, bounds), VaultKit.sized(VaultKit.groups(1, ones(8)), VaultKit.same(1, 1, count - 8)),
+                VaultKit.sized(VaultKit.same(1, 1, count)), VaultKit.code(values));
+        bytes(what, VaultKit.vault("repeated long a;", text + "]}"), one(8, 1, page, VaultKit.varint(count), 0, bounds));
+    }
+
+    /** WIDTHS of 63 and of 64, "as little as can be". */
+    private static void differencesOfAllBits() {
+        for (int more = 0; more <= 1; more++) {
+            long[] values = new long[60];
+            for (int k = 1; k < 60; k++) {
+                values[k] = HIGHEST - 1 + more - k;
+            }
+            // The first difference is 2 to the 63 less 2 and some more, the others are - 1.
+            coded("a WIDTH of " + (63 + more), values);
+        }
+    }
+
+    private static void leastOfAnotherBlock() {
+        for (int count = 65; count <= 67; count++) {
+            long[] values = new long[count];
+            for (int k = 0; k < count; k++) {
+                values[k] = k < 65 ? 7 * k : 7 * k - 100;
+            }
+            coded(count + " numbers, the least difference in the second block", values);
+        }
+    }
+
+    /** Levels of 125, 127 and 130 bytes: their size has one byte, or two. */
+    private static void sizesInFront() {
+        for (int groups = 62; groups <= 64; groups++) {
+            StringBuilder text = new StringBuilder();
+            long[] defs = new long[8 * groups];
+            int values = 4 * groups;
+            for (int k = 0; k < defs.length; k++) {
+                text.append(k == 0 ? "{g:[" : ",").append(k % 2 == 0 ? "{a:1}" : "{}");
+                defs[k] = k % 2 == 0 ? 2 : 1;
+            }
+            byte[] count = VaultKit.varint(defs.length);
+            byte[] code = VaultKit.cat(1, VaultKit.low4(1), 0, VaultKit.varint(2L * values));
+            byte[] page = VaultKit.page(VaultKit.cat(count, VaultKit.varint(defs.length - values), 2, 2, 2),
+                    VaultKit.sized(VaultKit.groups(1, ones(8)), VaultKit.same(1, 1, defs.length - 8)), VaultKit.sized(VaultKit.groups(2, defs)), code);
+            bytes(groups + " groups of levels", VaultKit.vault("repeated group g{optional int a;}", text + "]}"),
+                    VaultKit.frame(page, 2, 14, 0, 1, "g", 4, 1, 1, "a", 1, 1, 1, VaultKit.varint(page.length), 1, count,
+                            VaultKit.varint(defs.length - values), 2, 2));
+        }
+    }
+
+    /** Runs of ONE and GROUPS, of bools themselves. */
+    private static void boolsByRuns() {
+        StripedVault v = VaultKit.vault("required bool a;");
+        for (int k = 0; k < 48; k++) {
+            VaultKit.due("record", VaultKit.record(v, "{a:" + (k < 40 || k % 2 == 0) + "}"), -1);
+        }
+        // 41 times true, then seven more.
+        byte[] page = VaultKit.page(VaultKit.cat(48, 0, 1, 0, 1), 82, 1, 3, 0b00101010);
+        bytes("runs of bools", v, one(0, 48, page, 48, 0, 0, 1));
+    }
+
+    /** "in common is as much as can be": all of the one before it, or all of the text itself. */
+    private static void allInCommon() {
+        String stem = "a stem that is long enough for all";
+        for (int size = stem.length() - 1; size <= stem.length(); size++) {
+            int count = 16;
+            long[] common = new long[count];
+            long[] more = new long[count];
+            StringBuilder rest = new StringBuilder();
+            StripedVault v = VaultKit.vault("required text a;");
+            String before = "";
+            for (int k = 0; k < count; k++) {
+                String text = stem.substring(0, size) + "bcdefghi".substring(0, k < 8 ? k : 15 - k);
+                VaultKit.due("record", VaultKit.record(v, "{a:'" + text + "'}"), -1);
+                common[k] = k == 0 ? 0 : Math.min(before.length(), text.length());
+                more[k] = text.length() - common[k];
+                rest.append(text.substring((int) common[k]));
+                before = text;
+            }
+            byte[] bounds = VaultKit.cat(VaultKit.sized(stem.substring(0, size)), VaultKit.sized(stem.substring(0, size) + "bcdefgh"));
+            byte[] page = VaultKit.page(VaultKit.cat(count, 0, 2, bounds), VaultKit.sized(VaultKit.code(common)), VaultKit.sized(VaultKit.code(more)), rest.toString());
+            bytes("texts that another begins with", v, one(9, count, page, count, 0, bounds));
         }
     }
 
