@@ -535,6 +535,7 @@ public final class EdgeTextTest {
         for (int k = 0; k < 3; k++) {
             VaultKit.due("two fields", VaultKit.schema(v, "required int a;optional int b;"), -1);
             VaultKit.due("record", VaultKit.record(v, "{a:1,b:2}"), -1);
+            VaultKit.due("another one", VaultKit.schema(v, "required int c;"), -1);
             VaultKit.due("one field", VaultKit.schema(v, "required int a;"), -1);
             VaultKit.due("no second one", VaultKit.record(v, "{a:1,b:2}"), 5);
             VaultKit.due("a group", VaultKit.schema(v, "required group g{required int a;}"), -1);

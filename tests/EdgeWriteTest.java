@@ -310,9 +310,9 @@ public final class EdgeWriteTest {
         for (int more = 0; more <= 1; more++) {
             long[] values = new long[60];
             for (int k = 1; k < 60; k++) {
-                values[k] = HIGHEST - 1 + more - k;
+                values[k] = HIGHEST + more - k;
             }
-            // The first difference is 2 to the 63 less 2 and some more, the others are - 1.
+            // The others less the one before them are - 1: the first difference, less that, is 2 to the 63, or one less.
             coded("a WIDTH of " + (63 + more), values);
         }
     }
