@@ -5,6 +5,7 @@ public final class EdgeTapeTest {
 
     public static void main(String[] args) {
         roomOfTheTape();
+        as512Calls();
         howManyAreCutOff();
         refusedEndChangesNothing();
         cutOffTwice();
@@ -33,6 +34,20 @@ public final class EdgeTapeTest {
         VaultKit.due("none behind it", v.byteOf(40000), -1);
         VaultKit.due("the first byte of the last twenty", v.byteOf(39983), 1);
         VaultKit.due("there is room again", v.feed(1, 2, 3, 4, 5), true);
+    }
+
+    /** "An object is used for at most 512 calls": the last ones of them answer like the others. */
+    private static void as512Calls() {
+        StripedVault v = new StripedVault();
+        for (int k = 0; k < 506; k++) {
+            VaultKit.due("feed", v.feed(k, k, k, k, k), true);
+        }
+        VaultKit.due("end", v.end(10121), false);
+        VaultKit.due("end", v.end(10120), true);
+        v.take();
+        VaultKit.due("size", v.size(), 10120);
+        VaultKit.due("the last byte", v.byteOf(10119), 505 & 255);
+        VaultKit.due("open", v.open(), 13);
     }
 
     /** "the first n bytes of the tape, which is empty then; false if it hasn't so many, or n is below 0". */
