@@ -2598,20 +2598,33 @@ public final class StripedVault {
             scan.next();
             int at = scan.pos;
             boolean turned = scan.takeWord("not");
-            if (!turned && !scan.takeSign('(')) {
-                readPlainTest();
+            if (turned || scan.takeSign('(')) {
+                if (depth >= MOST_NESTED) {
+                    scan.refuse(at);
+                } else if (turned) {
+                    readTest(depth + 1);
+                    addStep(NOT, at, 0, 0, 0);
+                } else {
+                    readCondition(depth + 1);
+                    scan.needSign(')');
+                }
                 return;
             }
-            if (depth >= MOST_NESTED) {
-                scan.refuse(at);
+            int field = readColumn();
+            if (!scan.good()) {
                 return;
             }
-            if (turned) {
-                readTest(depth + 1);
-                addStep(NOT, at, 0, 0, 0);
+            int column = schema.column[field];
+            if (scan.takeWord("is")) {
+                int form = scan.takeWord("not") ? VALUE_TEST : NULL_TEST;
+                scan.needWord("null");
+                addStep(form, at, column, 0, 0);
+            } else if (scan.takeWord("in")) {
+                int first = literals;
+                readList(schema.type[field]);
+                addStep(LIST_TEST, at, column, first, literals - first);
             } else {
-                readCondition(depth + 1);
-                scan.needSign(')');
+                readComparison(field, at);
             }
         }
 
@@ -2628,26 +2641,6 @@ public final class StripedVault {
             stepOther[steps] = other;
             stepLiterals[steps] = count;
             steps++;
-        }
-
-        private void readPlainTest() {
-            int field = readColumn();
-            if (!scan.good()) {
-                return;
-            }
-            int at = pathAt;
-            int column = schema.column[field];
-            if (scan.takeWord("is")) {
-                int form = scan.takeWord("not") ? VALUE_TEST : NULL_TEST;
-                scan.needWord("null");
-                addStep(form, at, column, 0, 0);
-            } else if (scan.takeWord("in")) {
-                int first = literals;
-                readList(schema.type[field]);
-                addStep(LIST_TEST, at, column, first, literals - first);
-            } else {
-                readComparison(field, at);
-            }
         }
 
         private void readList(int type) {
